@@ -303,8 +303,14 @@ public final class ShortVectors {
 
     /** What a search through a lattice hands its vectors to. */
     private abstract static class Collector {
+        /** The point from which squares are measured: 0 where a collector does not move it. */
+        private final long[] goal = new long[AXES];
         /** The greatest square that still matters; it may fall during a search. */
         private long budget;
+
+        long[] goal() {
+            return goal;
+        }
 
         void setBudget(long greatest) {
             budget = greatest;
@@ -314,7 +320,7 @@ public final class ShortVectors {
             return square <= budget;
         }
 
-        /** Meets a vector of the lattice less the point of the search; the array is the search's own. */
+        /** Meets a vector of the lattice less the goal; the array is the search's own. */
         abstract void meet(long[] offset, long square);
     }
 
@@ -325,7 +331,7 @@ public final class ShortVectors {
         void fill(Basis basis) {
             Arrays.fill(sums, 0);
             setBudget(GREATEST_COUNTED);
-            basis.searchAroundZero(this);
+            basis.search(this);
             for (int m = 1; m <= GREATEST_COUNTED; m++) {
                 sums[m] += sums[m - 1];
             }
@@ -335,7 +341,6 @@ public final class ShortVectors {
             return sums[m];
         }
 
-        @Override
         void meet(long[] offset, long square) {
             if (wants(square)) {
                 sums[(int) square]++;
@@ -354,14 +359,13 @@ public final class ShortVectors {
             // The shortest vector's own multiples fill the list within this square.
             long longest = LISTED / 2;
             setBudget(longest * longest * basis.leastSquare());
-            basis.searchAroundZero(this);
+            basis.search(this);
         }
 
         int coordinate(int k, int axis) {
             return k < listLength ? (int) vectors[k][axis] : NONE;
         }
 
-        @Override
         void meet(long[] offset, long square) {
             if (!wants(square)) {
                 return;
@@ -395,18 +399,17 @@ public final class ShortVectors {
 
     /** The vector of the lattice that is nearest to a point. */
     private static final class Closest extends Collector {
-        private final long[] goal = new long[AXES];
         private final long[] best = new long[AXES];
         private long bestSquare;
 
         void approach(Basis basis, long[] point) {
-            copy(point, goal);
+            copy(point, goal());
             // The vector 0 is in every lattice: the search begins with it as the best so far.
             Arrays.fill(best, 0);
-            addMultiple(best, goal, -1);
+            addMultiple(best, point, -1);
             bestSquare = product(best, best);
             setBudget(bestSquare);
-            basis.searchAround(goal, this);
+            basis.search(this);
         }
 
         int leastSquare() {
@@ -414,10 +417,9 @@ public final class ShortVectors {
         }
 
         int coordinate(int axis) {
-            return (int) (goal[axis] + best[axis]);
+            return (int) (goal()[axis] + best[axis]);
         }
 
-        @Override
         void meet(long[] offset, long square) {
             if (square < bestSquare || square == bestSquare && comesBefore(offset, best)) {
                 copy(offset, best);
@@ -441,11 +443,10 @@ public final class ShortVectors {
         private final long[] directionSquares = new long[AXES];
         /** How far one step along row k goes, measured along direction k. */
         private final long[] strides = new long[AXES];
-        /** Sum k of a search: less the point, and with the multiples of row k and of those behind it. */
+        /** Sum k of a search: the multiples of row k and of those behind it, less the goal. */
         private final long[][] sums = new long[AXES + 1][AXES];
         private final long[][] minors = new long[AXES][AXES];
         private final long[] trial = new long[AXES];
-        private final long[] zero = new long[AXES];
         private int size;
 
         void take(Echelon echelon) {
@@ -494,7 +495,7 @@ public final class ShortVectors {
 
         private boolean shortenBy(int k, int other) {
             long shared = product(rows[k], rows[other]);
-            long square = squareOf(other);
+            long square = product(rows[other], rows[other]);
             if (2 * Math.abs(shared) <= square) {
                 return false;
             }
@@ -529,7 +530,7 @@ public final class ShortVectors {
                     digits /= FACTORS;
                 }
             }
-            if (product(trial, trial) >= squareOf(k)) {
+            if (product(trial, trial) >= product(rows[k], rows[k])) {
                 return false;
             }
             copy(trial, rows[k]);
@@ -599,15 +600,11 @@ public final class ShortVectors {
             }
         }
 
-        void searchAroundZero(Collector collector) {
-            searchAround(zero, collector);
-        }
-
-        /** Hands every vector of the lattice whose square, less the point, the collector wants to it. */
-        void searchAround(long[] point, Collector collector) {
-            copy(zero, sums[size]);
-            addMultiple(sums[size], point, -1);
-            descend(size, squareOutside(point), collector);
+        /** Hands the collector every vector of the lattice that is near enough to its goal, and perhaps some others. */
+        void search(Collector collector) {
+            Arrays.fill(sums[size], 0);
+            addMultiple(sums[size], collector.goal(), -1);
+            descend(size, squareOutside(collector.goal()), collector);
         }
 
         /** A lower bound of the square of the part of a point that is at a right angle to the lattice. */
@@ -621,7 +618,7 @@ public final class ShortVectors {
             return Math.max(0, left);
         }
 
-        /** Chooses the multiples of the rows before a level; the spent square bounds what the others cost from below. */
+        /** Chooses multiples of the rows before a level; what is spent bounds the cost of the other rows from below. */
         private void descend(int level, long spent, Collector collector) {
             if (level <= 0) {
                 collector.meet(sums[0], product(sums[0], sums[0]));
